@@ -91,7 +91,7 @@ final class FaceAndLanguageTest {
             Matcher found = Pattern.compile(edge + Pattern.quote(word) + edge).matcher(code);
             Checks.same("the source uses " + word, found.find(), false);
         }
-        // An array made in a method would stand after the first brace that ends a member.
+        // The fields stand before the constructor: what is made after them is made by a call.
         String afterFields = code.substring(code.indexOf("public BeltLanes("));
         Checks.same("something is made outside the fields", afterFields.contains("new "), false);
     }

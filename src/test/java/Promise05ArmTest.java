@@ -56,7 +56,7 @@ final class Promise05ArmTest {
     private static void readsTheReach() {
         for (int reach = 0; reach <= 60; reach++) {
             BeltLanes x = new BeltLanes(60);
-            x.arm(0, 4, reach, 255);
+            Checks.same("arm with reach " + reach, x.arm(0, 4, reach, 255), 0);
             x.put(0, 3);
             // The item is at 60 less the ticks when the arm looks for it.
             int due = reach + 3 >= 59 ? 59 : reach + 3;
