@@ -31,10 +31,17 @@ final class Checks {
     /** One belt as text: "place:kind" for each item, the first one first. */
     static String belt(BeltLanes x, int belt) {
         StringBuilder text = new StringBuilder();
-        for (int i = 0; i < x.items(belt); i++) {
+        int items = x.items(belt);
+        for (int i = 0; i < items; i++) {
             text.append(i == 0 ? "" : " ").append(x.place(belt, i)).append(':').append(x.kind(belt, i));
         }
         return text.toString();
+    }
+
+    /** The four belts, each told as {@link #belt} tells it. */
+    static void belts(String what, BeltLanes x, String... due) {
+        String got = belt(x, 0) + " | " + belt(x, 1) + " | " + belt(x, 2) + " | " + belt(x, 3);
+        same(what, got, String.join(" | ", due));
     }
 
     /** All that can be seen of an object by calls that change nothing. */
