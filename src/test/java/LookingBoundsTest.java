@@ -111,14 +111,14 @@ final class LookingBoundsTest {
         Scenes.goOnAlike(what + " in scene " + scene, x, twin);
     }
 
-    /** Promise 10: not what was taken, refused, led to a belt or is held by an arm. */
+    /** Promise 10: not what was taken, refused or led to a belt, nor what an arm takes or puts. */
     private static void countsOnlyWhatWentOut() {
         BeltLanes x = Scenes.belts(8, "0:1", "0:2", "0:3", "0:4");
         Checks.same("out at first", x.out(), 0);
         x.take(0);
         Checks.same("out after take", x.out(), 0);
         x.lead(1, 0);
-        x.arm(0, 2, 0, 255);
+        x.arm(0, 2 | (1 << 2), 0, 255);
         x.tick(1);
         Checks.belts("belts", x, "8:2", "", "", "0:4");
         Checks.same("held", x.held(0), 3);
@@ -126,6 +126,9 @@ final class LookingBoundsTest {
         x.take(0);
         x.put(0, 8);
         Checks.same("out after refused calls", x.out(), 0);
+        x.tick(1);
+        Checks.belts("belts once the arm has put", x, "7:2", "8:3", "", "0:4");
+        Checks.same("out after the arm has put", x.out(), 0);
         x.lead(3, BeltLanes.OPEN);
         Checks.same("out before the tick", x.out(), 0);
         x.tick(1);

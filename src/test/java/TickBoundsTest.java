@@ -248,7 +248,7 @@ final class TickBoundsTest {
         Checks.belts("room on belt 1", x, "3:2 7:3", "3:4 7:1", "", "");
     }
 
-    /** "the belts in the order 0 to 3": each item comes to a belt before that belt's turn, but for belt 0. */
+    /** "the belts in the order 0 to 3": an item that comes to a later belt still moves in this tick. */
     private static void beltsTakeTurnsInOrder() {
         BeltLanes up = Scenes.belts(8, "0:1", "0:2", "0:3", "0:4");
         for (int belt = 0; belt < 4; belt++) {
@@ -271,7 +271,7 @@ final class TickBoundsTest {
         Checks.same("state of a full ring", Checks.state(x), before);
     }
 
-    /** Belt 3 has taken its last one on to where it has room, so each tick lets a belt move. */
+    /** Belt 3 has room for one more: the room wanders against the items, from belt to belt. */
     private static void aRingWithOneGapGoesAround() {
         BeltLanes x = Scenes.belts(8, "0:1 4:2 8:3", "0:4 4:5 8:6", "0:7 4:0 8:1", "0:2 4:3");
         for (int belt = 0; belt < 4; belt++) {
